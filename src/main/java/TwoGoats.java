@@ -464,27 +464,25 @@ public final class TwoGoats {
             return text.byteAt(4 * path + what) - '0';
         }
 
-        private boolean isPath(int path) {
-            return path >= 0 && path < paths && path < PATHS_MOST;
-        }
-
         boolean leadsFrom(int path, int place) {
-            return isPath(path) && (oneEnd[path] == place || otherEnd[path] == place);
+            if (path < 0 || path >= paths || path >= PATHS_MOST) {
+                return false;
+            }
+            return oneEnd[path] == place || otherEnd[path] == place;
         }
 
+        /** Where a path that is there leads to; the mask keeps the index inside whatever is asked. */
         int across(int path, int place) {
-            if (!isPath(path)) {
-                return place;
-            }
-            return oneEnd[path] == place ? otherEnd[path] : oneEnd[path];
+            int p = path & (PATHS_MOST - 1);
+            return oneEnd[p] == place ? otherEnd[p] : oneEnd[p];
         }
 
         int yardsOf(int path) {
-            return isPath(path) ? yards[path] : 0;
+            return yards[path & (PATHS_MOST - 1)];
         }
 
         boolean haveSameEnds(int a, int b) {
-            return isPath(b) && leadsFrom(a, oneEnd[b]) && leadsFrom(a, otherEnd[b]);
+            return leadsFrom(a, figure(b, 0)) && leadsFrom(a, figure(b, 1));
         }
 
         /** Which of two paths stands for both, when the stake between them is pulled. */
@@ -800,7 +798,7 @@ public final class TwoGoats {
             // Each round but the last finds a way that is new, so there are no more rounds than ways.
             for (int steps = 1; steps <= WAYS_MOST + 1; steps++) {
                 int end = known;
-                for (int i = begin; i < end; i++) {
+                for (int i = begin; i < end && i <= WAYS_MOST; i++) {
                     if (leadsTo(ways[i], first, second)) {
                         return steps;
                     }

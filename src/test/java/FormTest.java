@@ -1,15 +1,18 @@
 import java.lang.management.ManagementFactory;
 import java.lang.reflect.Constructor;
 import java.lang.reflect.Field;
+import java.lang.reflect.InvocationTargetException;
 import java.lang.reflect.Method;
 import java.lang.reflect.Modifier;
 import java.nio.charset.StandardCharsets;
 import java.nio.file.Files;
 import java.nio.file.Path;
+import java.util.Arrays;
+import java.util.Random;
 import java.util.Set;
 import java.util.TreeSet;
 
-/** The form of the class: its face, words that LANGUAGE.md rules out, and that no call makes an object. */
+/** The form of the class: its face, words that LANGUAGE.md rules out, and that no call throws or makes an object. */
 public final class FormTest {
     private static final String FACE = "type(int,int)int wipe(int)int fault()int path(int,int)int start(int,int)int"
         + " set(int,int)int thistle(int,int)int read(int,int)int undo(int)int judged(int)int state(int,int,int)int"
@@ -23,6 +26,7 @@ public final class FormTest {
         face();
         names();
         words();
+        neverThrows();
         room();
         System.out.println(wrong == 0 ? "the form is as due" : wrong + " faults of form");
         if (wrong != 0) {
@@ -98,6 +102,33 @@ public final class FormTest {
         check(!code.contains("->") && !code.contains("::"), "a lambda or a reference to a method");
         for (byte b : bytes) {
             check(b == '\n' || b >= ' ', "a byte " + b);
+        }
+    }
+
+    private static void neverThrows() throws Exception {
+        int[] numbers = {Integer.MIN_VALUE, -61, -1, 0, 1, 2, 3, 7, 8, 40, 41, 60, 97, Integer.MAX_VALUE};
+        Random random = new Random(7);
+        Method[] methods = TwoGoats.class.getMethods();
+        for (int run = 0; run < 300; run++) {
+            TwoGoats x = new TwoGoats();
+            for (char c : "011;121;201;011".toCharArray()) {
+                x.type(0, c);
+            }
+            for (int n = 0; n < 500; n++) {
+                Method m = methods[random.nextInt(methods.length)];
+                if (m.getDeclaringClass() != TwoGoats.class) {
+                    continue;
+                }
+                Object[] args = new Object[m.getParameterCount()];
+                for (int i = 0; i < args.length; i++) {
+                    args[i] = numbers[random.nextInt(numbers.length)];
+                }
+                try {
+                    m.invoke(x, args);
+                } catch (InvocationTargetException e) {
+                    check(false, m.getName() + Arrays.toString(args) + " throws " + e.getCause());
+                }
+            }
         }
     }
 
