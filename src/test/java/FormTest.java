@@ -7,7 +7,9 @@ import java.lang.reflect.Modifier;
 import java.nio.charset.StandardCharsets;
 import java.nio.file.Files;
 import java.nio.file.Path;
+import java.util.ArrayList;
 import java.util.Arrays;
+import java.util.List;
 import java.util.Random;
 import java.util.Set;
 import java.util.TreeSet;
@@ -26,6 +28,7 @@ public final class FormTest {
         face();
         names();
         words();
+        sizes();
         neverThrows();
         room();
         System.out.println(wrong == 0 ? "the form is as due" : wrong + " faults of form");
@@ -102,6 +105,33 @@ public final class FormTest {
         check(!code.contains("->") && !code.contains("::"), "a lambda or a reference to a method");
         for (byte b : bytes) {
             check(b == '\n' || b >= ' ', "a byte " + b);
+        }
+    }
+
+    // LANGUAGE.md rule 11; a class inside stands four spaces further in than the public one, and so do its methods.
+    private static void sizes() throws Exception {
+        Class<?>[] inside = TwoGoats.class.getDeclaredClasses();
+        check(1 + inside.length <= 12, inside.length + " classes inside");
+        List<Class<?>> all = new ArrayList<>(Arrays.asList(inside));
+        all.add(TwoGoats.class);
+        for (Class<?> one : all) {
+            int fields = 0;
+            for (Field f : one.getDeclaredFields()) {
+                fields += Modifier.isStatic(f.getModifiers()) ? 0 : 1;
+            }
+            check(fields <= 20, one + " has " + fields + " fields");
+        }
+        String begin = "";
+        int lines = 0;
+        for (String line : Files.readAllLines(Path.of("src/main/java/TwoGoats.java"))) {
+            lines++;
+            if (line.matches(" {4}( {4})?[a-zA-Z].*\\) \\{")) {
+                begin = line;
+                lines = 1;
+            }
+            boolean ends = line.equals(begin.replaceAll("\\S.*", "") + "}");
+            check(!ends || begin.isEmpty() || lines <= 60, lines + " lines of " + begin);
+            begin = ends ? "" : begin;
         }
     }
 

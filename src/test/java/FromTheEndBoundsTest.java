@@ -16,6 +16,8 @@ public final class FromTheEndBoundsTest {
         soonBorneWithoutDragging();
         soonAtMost1000Ways();
         soonAheadOfTheFewest();
+        soonAgainAndAgain();
+        soonFromTheLongestRope();
         loose();
         pulledNumbers();
         pulledEnds();
@@ -28,6 +30,7 @@ public final class FromTheEndBoundsTest {
         gameStepsInAll();
         gameBorneWithoutDragging();
         gameThistlesAsTheyAreLeft();
+        gameOfAnyWorth();
         gameOfLikeOnes();
         alike();
         Held.end(15, 20);
@@ -175,6 +178,35 @@ public final class FromTheEndBoundsTest {
             new int[] {2, 4, 6, 4, 2, 6, 1, 2, FULL, 2, 1, FULL});
         dueSoon("042;124;041;404;314;241", 15, new int[] {7, 1002}, new int[] {1, 3, 7, 3, 1, 7, 3, 3, FULL});
         dueSoon("011;".repeat(6) + "121;231", 18, new int[] {4, 2353}, new int[] {3, 1, 4, 2, 2, 4, 3, 2, FULL});
+    }
+
+    private static void soonAgainAndAgain() {
+        Held.holds(15, "(for some number of steps, ahead of the fewest)");
+        String[] meadows = {
+            "022;412;024;402;032;041;023;304", "102;232;022;201;311;032;011;212", "013;013;014;102;211",
+            "051;051;021;201;241;511", "233;201;021;322;012;211;231", "011;012;012;013",
+        };
+        int[] reaches = {11, 7, 14, 7, 7, 10};
+        int[] answers = {NONE, NONE, FULL, FULL, FULL, NONE};
+        TwoGoats x = new TwoGoats();
+        for (int n = 0; n < 2 * meadows.length; n++) {
+            int i = n % meadows.length;
+            Held.retype(x, 0, meadows[i]);
+            x.set(2, reaches[i]);
+            Held.due("question " + n + " to one object: soon(0, 7, 7) of " + meadows[i], x.soon(0, 7, 7), answers[i]);
+        }
+    }
+
+    private static void soonFromTheLongestRope() {
+        Held.holds(15, "From where a DAY ends, steps that are BORNE, without dragging, by either goat");
+        TwoGoats x = Held.with("011;011;021", "ab".repeat(8) + "a");
+        x.set(2, 18);
+        Held.at("from 17 paths: soon(0, .., 0)", p -> x.soon(0, p, 0), 0, 1, 1, 0, 2, 2);
+        x.type(1, 'b');
+        Held.at("from 18 paths: soon(0, .., 0)", p -> x.soon(0, p, 0), 0, 0, 1, 1, 2, 3);
+        Held.at("from 18 paths: soon(0, 1, ..)", p -> x.soon(0, 1, p), 0, 1, 1, 2, 2, 2);
+        x.type(1, 'c');
+        Held.due("the rope has no more yards", x.judged(0), 18);
     }
 
     // ---- loose
@@ -422,6 +454,21 @@ public final class FromTheEndBoundsTest {
         dueGames("all are eaten", x, new int[] {0, 0, 0, 0, 0}, new int[] {NONE, NONE, NONE, NONE, NONE});
         Held.due("the other day's thistles are left", x.game(1, 1, 0), 9);
         Held.due("the game changes nothing", x.state(0, 2, 4), 14);
+    }
+
+    private static void gameOfAnyWorth() {
+        Held.holds(19, "THISTLES of a PLACE have a WORTH (0 to 99; 0 at first)");
+        for (int worth : new int[] {0, 1, 2, 98, 99}) {
+            TwoGoats x = Held.with("011;121;231", "");
+            int step = worth == 0 ? NONE : 0;
+            x.thistle(1, worth);
+            Held.due("one of worth " + worth + ": game(0, 1, 0)", x.game(0, 1, 0), worth);
+            Held.due("one of worth " + worth + ": game(0, 1, 1)", x.game(0, 1, 1), step);
+            x.thistle(2, worth);
+            x.thistle(3, worth);
+            Held.due("three of worth " + worth + ": game(0, 5, 0)", x.game(0, 5, 0), 3 * worth);
+            Held.due("three of worth " + worth + ": game(0, 5, 1)", x.game(0, 5, 1), step);
+        }
     }
 
     private static void gameOfLikeOnes() {

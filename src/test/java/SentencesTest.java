@@ -42,7 +42,7 @@ public final class SentencesTest {
     private void readTests() throws IOException {
         List<Path> files;
         try (Stream<Path> all = Files.list(Path.of("src/test/java"))) {
-            files = all.filter(file -> file.toString().endsWith("BoundsTest.java")).sorted().collect(Collectors.toList());
+            files = all.filter(file -> file.toString().endsWith("BoundsTest.java")).collect(Collectors.toList());
         }
         for (Path file : files) {
             Matcher held = HELD.matcher(Held.read(file.toString()));

@@ -460,8 +460,9 @@ public final class SheetsBoundsTest {
         TwoGoats bad = Held.with("011", "a");
         Held.due("pulled is bad", bad.pulled(0, 0, 1, 0), BAD);
         Held.due("digest", bad.digest(), digestByCalls(bad));
-        TwoGoats one = Held.with("012;101", "a");
-        Held.due("pulled is a number", one.pulled(0, 0, 1, 1), 1);
+        TwoGoats one = Held.with("013;102", "a");
+        Held.due("pulled is a number of paths", one.pulled(0, 0, 1, 0), 1);
+        Held.due("pulled is a number of yards", one.pulled(0, 0, 1, 1), 2);
         Held.due("digest", one.digest(), digestByCalls(one));
     }
 
