@@ -125,7 +125,7 @@ public final class FormTest {
         int lines = 0;
         for (String line : Files.readAllLines(Path.of("src/main/java/TwoGoats.java"))) {
             lines++;
-            if (line.matches(" {4}( {4})?[a-zA-Z].*\\) \\{")) {
+            if (line.matches(" {4}( {4})?(?!for|if|while|switch)[a-zA-Z].*\\) \\{")) {
                 begin = line;
                 lines = 1;
             }
