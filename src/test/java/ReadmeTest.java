@@ -1,5 +1,6 @@
 import java.io.IOException;
 import java.lang.reflect.Method;
+import java.lang.reflect.Modifier;
 import java.net.URL;
 import java.net.URLClassLoader;
 import java.nio.file.Files;
@@ -97,7 +98,7 @@ public final class ReadmeTest {
     /** No call of the class is left out of the examples and of the table. */
     private static void calls() {
         for (Method m : TwoGoats.class.getDeclaredMethods()) {
-            boolean isPublic = java.lang.reflect.Modifier.isPublic(m.getModifiers());
+            boolean isPublic = Modifier.isPublic(m.getModifiers());
             boolean named = README.contains("." + m.getName() + "(") || README.contains("`" + m.getName());
             check(!isPublic || named, "no word of " + m.getName());
         }
@@ -131,7 +132,7 @@ public final class ReadmeTest {
         }
         check(told.equals(found), "told are " + told + ", found are " + found);
         for (String file : namesIn(Path.of("../shared/tests"))) {
-            check(file.endsWith(".java") && !file.contains("/"), "../shared/tests/" + file + " is run by nothing");
+            check(!file.endsWith(".java") || !file.contains("/"), "../shared/tests/" + file + " is run by nothing");
         }
     }
 
